@@ -1463,7 +1463,7 @@ public final class HullEars {
         }
 
         /** In how many ways those from i on take others that are not taken. */
-        int ways(int i, int taken, int pairs) {
+        private int ways(int i, int taken, int pairs) {
             if (i >= pairs || i >= MOST_PAIRS) {
                 return 1;
             }

@@ -20,9 +20,11 @@ public final class HullEars {
     private static final int DEPTHS = 10;
     private static final int DAYS = 3;
     private static final int DIRECTIONS = 80;
+    private static final int ARM = 10;
     private static final int PACE = 3;
     private static final int PACES = 7;
-    private static final int LANES = SEA * PACES * PACES;
+    private static final int SHEAVES = SEA * PACES;
+    private static final int LANES = SHEAVES * PACES;
     private static final int FARTHEST = 200;
     private static final int MOST_HEARD = 24;
     private static final int MOST_ECHOES = 12;
@@ -158,7 +160,7 @@ public final class HullEars {
         if (!isIn(x, -1000, 1000) || !isIn(y, -1000, 1000)) {
             return NONE;
         }
-        return Rose.direction(x, y);
+        return direction(x, y);
     }
 
     // ---- what is heard ----
@@ -679,6 +681,30 @@ public final class HullEars {
         return rows.isFull() ? refuse(NO_ROOM) : changed(rows.add(a, b, c, d, e));
     }
 
+    // ---- directions ----
+
+    /** At which direction a way lies, or behind which; NONE of no way. */
+    private static int direction(int east, int north) {
+        if (north > 0 && east >= -north && east < north) {
+            return 10 + Math.floorDiv(ARM * east, north);
+        }
+        if (east > 0 && north > -east && north <= east) {
+            return 30 + Math.floorDiv(-ARM * north, east);
+        }
+        if (north < 0 && east > north && east <= -north) {
+            return 50 + Math.floorDiv(ARM * east, north);
+        }
+        if (east < 0) {
+            return 70 + Math.floorDiv(-ARM * north, east);
+        }
+        return NONE;
+    }
+
+    private static int between(int one, int other) {
+        int way = Math.floorMod(one - other, DIRECTIONS);
+        return Math.min(way, DIRECTIONS - way);
+    }
+
     // ---- smaller works ----
 
     private static int inWatch(Rows marks, int watch, int without) {
@@ -902,6 +928,7 @@ public final class HullEars {
     /** The layers of each day, and the rays that they bend. */
     private static final class Water {
         private final int[] slow = new int[DAYS * DEPTHS];
+        private final int[] bends = new int[DEPTHS];
         private int day = 0;
 
         Water() {
@@ -922,12 +949,13 @@ public final class HullEars {
         void sendRays(int from, int last, int[] depths) {
             int end = Math.min(last, depths.length - 1);
             Arrays.fill(depths, 0);
+            findBends();
             for (int leaving = -2; leaving <= 2; leaving++) {
                 int depth = from;
                 int slope = leaving;
                 for (int range = 0; range <= end; range++) {
                     depths[range] |= 1 << depth;
-                    slope = Math.max(-2, Math.min(2, slope + bend(depth)));
+                    slope = Math.max(-2, Math.min(2, slope + bends[depth]));
                     depth += slope;
                     if (depth < 0) {
                         depth = -depth;
@@ -940,19 +968,18 @@ public final class HullEars {
             }
         }
 
-        private int bend(int depth) {
-            int first = day * DEPTHS;
-            int below = first + Math.min(depth + 1, DEPTHS - 1);
-            int above = first + Math.max(depth - 1, 0);
-            if (first < 0 || below >= slow.length || above >= slow.length) {
-                return 0;
+        private void findBends() {
+            int first = Math.max(0, Math.min(DAYS - 1, day)) * DEPTHS;
+            for (int depth = 0; depth < DEPTHS; depth++) {
+                int below = slow[first + Math.min(depth + 1, DEPTHS - 1)];
+                int above = slow[first + Math.max(depth - 1, 0)];
+                bends[depth] = Integer.compare(below, above);
             }
-            return Integer.compare(slow[below], slow[above]);
         }
 
         /** Whether a bit stands for the depth, or for one off. */
         static boolean isNear(int depthBits, int depth) {
-            return (depthBits & 7 << depth >> 1) != 0;
+            return (depthBits & ((7 << depth) >> 1)) != 0;
         }
 
         void copy(Water other) {
@@ -998,57 +1025,40 @@ public final class HullEars {
     }
 
     /**
-     * Directions, and COLUMNS: 32 places of one east, one above another, as bits from the lowest
-     * north on, told by the way there from a boat.
+     * Places of one east that fit a direction or a distance from a boat, told by the way there: all
+     * norths from a lowest to a highest one but for those of a hole.
+     *
+     * A COLUMN is 32 such places, as bits from a lowest north on.
      */
-    private static final class Rose {
-        private static final int ARM = 10;
+    private static final class Band {
         private static final int HALF = DIRECTIONS / 2;
         private static final int UP = 10;
         private static final int DOWN = 50;
         private static final int BEYOND = 100000;
 
-        private Rose() {
+        private int lowest = 0;
+        private int highest = NONE;
+        private int holeLowest = 0;
+        private int holeHighest = NONE;
+
+        private void mark(int low, int high, int holeLow, int holeHigh) {
+            lowest = low;
+            highest = high;
+            holeLowest = holeLow;
+            holeHighest = holeHigh;
         }
 
-        static int direction(int east, int north) {
-            if (north > 0 && east >= -north && east < north) {
-                return 10 + Math.floorDiv(ARM * east, north);
-            }
-            if (east > 0 && north > -east && north <= east) {
-                return 30 + Math.floorDiv(-ARM * north, east);
-            }
-            if (north < 0 && east > north && east <= -north) {
-                return 50 + Math.floorDiv(ARM * east, north);
-            }
-            if (east < 0) {
-                return 70 + Math.floorDiv(-ARM * north, east);
-            }
-            return NONE;
-        }
-
-        static int between(int one, int other) {
-            int way = Math.floorMod(one - other, DIRECTIONS);
-            return Math.min(way, DIRECTIONS - way);
-        }
-
-        static int bits(int low, int high) {
-            int first = Math.max(low, 0);
-            int last = Math.min(high, SEA - 1);
-            return first > last ? 0 : -1 << first & -1 >>> SEA - 1 - last;
-        }
-
-        /** Places of a column whose directions are at most error from one. */
-        static int arc(int direction, int error, int east, int low) {
+        /** A band of those whose directions are at most error from one. */
+        void arc(int direction, int error, int east) {
             if (east == 0) {
-                int above = between(direction, UP) <= error ? bits(1 - low, BEYOND) : 0;
-                int below = between(direction, DOWN) <= error ? bits(-BEYOND, -1 - low) : 0;
-                return above | below;
+                boolean above = between(direction, UP) <= error;
+                boolean below = between(direction, DOWN) <= error;
+                mark(below ? -BEYOND : 1, above ? BEYOND : -1, 0, 0);
+                return;
             }
             // Half a turn round takes all ways west to ways east: those have directions 10 .. 49,
-            // the more to the south the higher, so an arc of them is one row of the column.
-            int middle = east > 0 ? direction : direction + HALF;
-            int start = Math.floorMod(middle - error, DIRECTIONS);
+            // the more to the south the higher, so an arc of them is a band without a hole.
+            int start = Math.floorMod((east > 0 ? direction : direction + HALF) - error, DIRECTIONS);
             int end = start + 2 * error;
             int from = Math.max(start, UP);
             int to = Math.min(end, DOWN - 1);
@@ -1056,13 +1066,10 @@ public final class HullEars {
                 from = Math.max(start - DIRECTIONS, UP);
                 to = Math.min(end - DIRECTIONS, DOWN - 1);
             }
-            if (from > to) {
-                return 0;
-            }
             int wide = Math.abs(east);
-            int highest = from == UP ? BEYOND : border(from, wide);
-            int lowest = to == DOWN - 1 ? -BEYOND : border(to + 1, wide) + 1;
-            return east > 0 ? bits(lowest - low, highest - low) : bits(-highest - low, -lowest - low);
+            int high = from > to ? -BEYOND : from == UP ? BEYOND : border(from, wide);
+            int low = from > to ? BEYOND : to == DOWN - 1 ? -BEYOND : border(to + 1, wide) + 1;
+            mark(east > 0 ? low : -high, east > 0 ? high : -low, 0, NONE);
         }
 
         /** How far north a direction (11 .. 49) leads at most so far east. */
@@ -1072,16 +1079,13 @@ public final class HullEars {
             return armEast <= 0 ? 0 : Math.floorDiv(armNorth * east, armEast);
         }
 
-        /** Places of a column that are a distance away, or at most so much off. */
-        static int circle(int distance, int off, int east, int low) {
+        /** A band of those that are a distance away, or at most so much off. */
+        void circle(int distance, int off, int east) {
             int least = Math.max(0, distance - off);
             int most = distance + off;
-            if (Math.abs(east) > most) {
-                return 0;
-            }
             int outer = root(most * most - east * east);
             int inner = root(least * least - east * east - 1);
-            return bits(-outer - low, outer - low) & ~bits(-inner - low, inner - low);
+            mark(-outer, outer, -inner, inner);
         }
 
         /** The greatest number whose square is not above; -1 without. */
@@ -1097,9 +1101,21 @@ public final class HullEars {
             }
             return found;
         }
+
+        int column(int low) {
+            int found = bits(lowest - low, highest - low);
+            return found == 0 || holeLowest > holeHighest
+                ? found : found & ~bits(holeLowest - low, holeHighest - low);
+        }
+
+        static int bits(int low, int high) {
+            int first = Math.max(low, 0);
+            int last = Math.min(high, SEA - 1);
+            return first > last ? 0 : (-1 << first) & (-1 >>> (SEA - 1 - last));
+        }
     }
 
-    /** Which ranges count, asked by columns as the rose tells them. */
+    /** Which ranges count, asked by columns as a band tells them. */
     private static final class Rings {
         private final boolean[] counted = new boolean[FARTHEST + 1];
         private final int[] upright = new int[2 * FARTHEST + 1];
@@ -1114,7 +1130,7 @@ public final class HullEars {
         void settle() {
             int column = 0;
             for (int low = FARTHEST; low >= -FARTHEST; low--) {
-                column = column << 1 | (counted[Math.abs(low)] ? 1 : 0);
+                column = (column << 1) | (counted[Math.abs(low)] ? 1 : 0);
                 upright[low + FARTHEST] = column;
             }
         }
@@ -1125,14 +1141,14 @@ public final class HullEars {
                 return 0;
             }
             // As far up and down as it is wide, the east alone tells the range.
-            int near = Rose.bits(-wide - low, wide - low);
-            return upright[low + FARTHEST] & ~near | (counted[wide] ? near : 0);
+            int near = Band.bits(-wide - low, wide - low);
+            return (upright[low + FARTHEST] & ~near) | (counted[wide] ? near : 0);
         }
     }
 
     /**
      * What is new, and the runs that fit it. Runs of one east and one pace lie in one LANE: a word
-     * whose bits are their norths.
+     * whose bits are their norths. Seven lanes of one east and one pace east are a SHEAF.
      */
     private static final class Chart {
         private final Book book;
@@ -1142,12 +1158,17 @@ public final class HullEars {
         private final Rings hearing = new Rings();
         private final int[] depths = new int[FARTHEST + 1];
         private final int[] fits = new int[LANES];
+        private final Band band = new Band();
+        private final int[] sight = new int[PACES];
+        private final int[] left = new int[PACES];
+        private final int[] trial = new int[PACES];
         private final int[] groups = new int[DIRECTIONS + 1];
         private final int[] crossed = new int[MOST_PAIRS];
         private int knownHeard = 0;
         private int knownEchoes = 0;
         private int total = 0;
         private boolean sorted = false;
+        private boolean tuned = false;
         private boolean plotted = false;
 
         Chart(Book book) {
@@ -1156,10 +1177,11 @@ public final class HullEars {
 
         void forget() {
             sorted = false;
+            tuned = false;
             plotted = false;
         }
 
-        /** Parts what is known from what is new, and finds in which ranges each boat is reached. */
+        /** Parts what is known from what is new. */
         void sortOut() {
             if (sorted) {
                 return;
@@ -1168,15 +1190,22 @@ public final class HullEars {
             fresh[1].size = 0;
             knownHeard = sortKind(HEARD, book.heard);
             knownEchoes = sortKind(ECHO, book.echoes);
-            int target = book.terms[TARGET_DEPTH];
-            book.water.sendRays(target, FARTHEST, depths);
+            sorted = true;
+        }
+
+        /** Finds in which ranges each boat is reached. */
+        void tune() {
+            if (tuned) {
+                return;
+            }
+            book.water.sendRays(book.terms[TARGET_DEPTH], FARTHEST, depths);
             for (int boat = 0; boat < 2; boat++) {
                 for (int range = 0; range <= FARTHEST; range++) {
                     reach[boat].put(range, Water.isNear(depths[range], book.boats[boat].depth));
                 }
                 reach[boat].settle();
             }
-            sorted = true;
+            tuned = true;
         }
 
         private int sortKind(int kind, Rows marks) {
@@ -1206,10 +1235,12 @@ public final class HullEars {
                 int middle = places.at(i, 0) - book.boats[boat].east[bell];
                 boolean isThere = isIn(bell, places.at(i, 3), places.at(i, 4));
                 for (int east = middle - wide; isThere && east <= middle + wide; east++) {
-                    int fitting = kind == HEARD
-                        ? Rose.arc(value, book.terms[ERROR], east, low)
-                        : Rose.circle(value, book.terms[OFF], east, low);
-                    if ((fitting & Rose.bits(0, 2 * wide)) != 0) {
+                    if (kind == HEARD) {
+                        band.arc(value, book.terms[ERROR], east);
+                    } else {
+                        band.circle(value, book.terms[OFF], east);
+                    }
+                    if ((band.column(low) & Band.bits(0, 2 * wide)) != 0) {
                         return true;
                     }
                 }
@@ -1217,18 +1248,24 @@ public final class HullEars {
             return false;
         }
 
-        /** Places of a column that fit the i-th of what is new of a boat, if that is at a bell. */
-        int column(int boat, int i, int bell, int east, int low) {
+        /** Finds what of a sheaf's lanes fits the i-th of what is new of a boat, if that is at a bell; tuned. */
+        void look(int boat, int i, int bell, int sheaf) {
             if (!isBoat(boat) || !isBell(bell)) {
-                return 0;
+                Arrays.fill(sight, 0);
+                return;
             }
-            int wayEast = east - book.boats[boat].east[bell];
-            int wayNorth = low - book.boats[boat].north[bell];
+            int east = eastOf(sheaf * PACES, bell) - book.boats[boat].east[bell];
             int value = fresh[boat].at(i, 2);
-            int places = fresh[boat].at(i, 0) == HEARD
-                ? Rose.arc(value, book.terms[ERROR], wayEast, wayNorth)
-                : Rose.circle(value, book.terms[OFF], wayEast, wayNorth);
-            return places == 0 ? 0 : places & reach[boat].column(wayEast, wayNorth);
+            if (fresh[boat].at(i, 0) == HEARD) {
+                band.arc(value, book.terms[ERROR], east);
+            } else {
+                band.circle(value, book.terms[OFF], east);
+            }
+            for (int v = 0; v < PACES; v++) {
+                int low = lowOf(v, bell) - book.boats[boat].north[bell];
+                int places = band.column(low);
+                sight[v] = places == 0 ? 0 : places & reach[boat].column(east, low);
+            }
         }
 
         void plot() {
@@ -1236,35 +1273,46 @@ public final class HullEars {
             if (plotted) {
                 return;
             }
+            tune();
+            Arrays.fill(fits, 0);
             total = 0;
-            for (int lane = 0; lane < LANES; lane++) {
-                fits[lane] = fittingIn(lane);
-                total += Integer.bitCount(fits[lane]);
+            for (int sheaf = 0; sheaf < SHEAVES; sheaf++) {
+                plotSheaf(sheaf);
+                total += countFrom(sheaf * PACES, PACES, -1);
             }
             plotted = true;
         }
 
-        private int fittingIn(int lane) {
-            int heardByFirst = together(0, 0, lane, -1);
-            if (heardByFirst == 0 || fresh[1].size == 0) {
-                return heardByFirst;
+        private void plotSheaf(int sheaf) {
+            Arrays.fill(left, -1);
+            boolean some = narrow(left, 0, 0, sheaf);
+            if (fresh[1].size == 0) {
+                System.arraycopy(left, 0, fits, sheaf * PACES, PACES);
+                return;
             }
             int apart = book.terms[APART];
-            int found = 0;
-            for (int shift = -apart; shift <= apart; shift++) {
-                found |= together(1, shift, lane, heardByFirst & ~found);
+            for (int shift = -apart; some && shift <= apart; shift++) {
+                System.arraycopy(left, 0, trial, 0, PACES);
+                if (narrow(trial, 1, shift, sheaf)) {
+                    for (int v = 0; v < PACES; v++) {
+                        fits[sheaf * PACES + v] |= trial[v];
+                    }
+                }
             }
-            return found;
         }
 
-        /** Those of a lane's runs that fit all that is new of a boat, its bells shifted. */
-        private int together(int boat, int shift, int lane, int among) {
-            int left = among;
-            for (int i = 0; i < fresh[boat].size && left != 0; i++) {
-                int bell = fresh[boat].at(i, 1) + shift;
-                left &= column(boat, i, bell, eastOf(lane, bell), lowOf(lane, bell));
+        /** Leaves of a sheaf's lanes what fits all that is new of a boat, its bells shifted: whether that is some. */
+        private boolean narrow(int[] lanes, int boat, int shift, int sheaf) {
+            boolean some = true;
+            for (int i = 0; i < fresh[boat].size && some; i++) {
+                look(boat, i, fresh[boat].at(i, 1) + shift, sheaf);
+                some = false;
+                for (int v = 0; v < PACES; v++) {
+                    lanes[v] &= sight[v];
+                    some = some || lanes[v] != 0;
+                }
             }
-            return left;
+            return some;
         }
 
         static int eastOf(int lane, int bell) {
@@ -1357,7 +1405,7 @@ public final class HullEars {
             for (int lane = 0; lane < LANES; lane++) {
                 if (Math.abs(eastOf(lane, bell) - x) <= wide) {
                     int low = lowOf(lane, bell);
-                    found += Integer.bitCount(fits[lane] & Rose.bits(y - wide - low, y + wide - low));
+                    found += Integer.bitCount(fits[lane] & Band.bits(y - wide - low, y + wide - low));
                 }
             }
             return found;
@@ -1381,8 +1429,8 @@ public final class HullEars {
         private void groupLane(int norths, int east, int low) {
             for (int y = 0; y < SEA; y++) {
                 if ((norths >>> y & 1) != 0) {
-                    int direction = Rose.direction(east, low + y);
-                    groups[direction == NONE ? DIRECTIONS : direction]++;
+                    int group = direction(east, low + y);
+                    groups[group == NONE ? DIRECTIONS : group]++;
                 }
             }
         }
@@ -1425,11 +1473,16 @@ public final class HullEars {
         }
 
         int crossings(int bell, int one, int other) {
+            tune();
             int found = 0;
             for (int x = 0; x < SEA; x++) {
-                int places = column(0, one, bell, x, 0);
+                // Who lies still from there on is there at each bell.
+                int still = x * PACES + PACE;
+                look(0, one, bell, still);
+                int places = sight[PACE];
                 if (places != 0) {
-                    found += Integer.bitCount(places & column(1, other, bell, x, 0));
+                    look(1, other, bell, still);
+                    found += Integer.bitCount(places & sight[PACE]);
                 }
             }
             return found;
@@ -1479,16 +1532,17 @@ public final class HullEars {
 
     /**
      * How much that is new each run does not fit. The counts of a lane's 32 runs stand upright in
-     * PLANES: bit y of the p-th one is the p-th binary digit of the count of the run from y.
+     * PLANES: bit y of its p-th one is the p-th binary digit of the count of the run from y. A
+     * sheaf's planes stand lane behind lane.
      */
     private static final class Tallies {
         private static final int PLANES = 6;
 
         private final Book book;
         private final Chart chart;
-        private final int[] ofFirst = new int[PLANES];
-        private final int[] ofBoth = new int[PLANES];
-        private final int[] best = new int[PLANES];
+        private final int[] ofFirst = new int[PACES * PLANES];
+        private final int[] ofBoth = new int[PACES * PLANES];
+        private final int[] best = new int[PACES * PLANES];
         private final int[] howMany = new int[1 << PLANES];
         private int fewest = 0;
         private int first = 0;
@@ -1508,22 +1562,27 @@ public final class HullEars {
                 return;
             }
             chart.sortOut();
+            chart.tune();
             Arrays.fill(howMany, 0);
             fewest = howMany.length;
-            for (int lane = 0; lane < LANES; lane++) {
-                tally(lane);
-                spread(-1, PLANES - 1, 0);
-                noteFewest(lane);
+            for (int sheaf = 0; sheaf < SHEAVES; sheaf++) {
+                tally(sheaf);
+                for (int v = 0; v < PACES; v++) {
+                    spread(-1, v * PLANES, PLANES - 1, 0);
+                    noteFewest(sheaf * PACES + v, v * PLANES);
+                }
             }
             reckoned = true;
         }
 
         int missesOf(int x, int y, int u, int v) {
             chart.sortOut();
-            tally((x * PACES + u + PACE) * PACES + v + PACE);
+            chart.tune();
+            tally(x * PACES + u + PACE);
+            int from = (v + PACE) * PLANES;
             int found = 0;
             for (int p = 0; p < PLANES; p++) {
-                found |= (best[p] >>> y & 1) << p;
+                found |= (best[from + p] >>> y & 1) << p;
             }
             return found;
         }
@@ -1537,65 +1596,69 @@ public final class HullEars {
             return found;
         }
 
-        private void tally(int lane) {
+        private void tally(int sheaf) {
             Arrays.fill(ofFirst, 0);
-            addMisses(ofFirst, 0, 0, lane);
+            addMisses(ofFirst, 0, 0, sheaf);
             if (chart.fresh[1].size == 0) {
-                System.arraycopy(ofFirst, 0, best, 0, PLANES);
+                System.arraycopy(ofFirst, 0, best, 0, best.length);
                 return;
             }
             Arrays.fill(best, -1);
             int apart = book.terms[APART];
             for (int shift = -apart; shift <= apart; shift++) {
-                System.arraycopy(ofFirst, 0, ofBoth, 0, PLANES);
-                addMisses(ofBoth, 1, shift, lane);
-                takeFewer();
-            }
-        }
-
-        private void addMisses(int[] planes, int boat, int shift, int lane) {
-            for (int i = 0; i < chart.fresh[boat].size; i++) {
-                int bell = chart.fresh[boat].at(i, 1) + shift;
-                int carry = ~chart.column(boat, i, bell, Chart.eastOf(lane, bell), Chart.lowOf(lane, bell));
-                for (int p = 0; p < PLANES && carry != 0; p++) {
-                    int both = planes[p] & carry;
-                    planes[p] ^= carry;
-                    carry = both;
+                System.arraycopy(ofFirst, 0, ofBoth, 0, ofBoth.length);
+                addMisses(ofBoth, 1, shift, sheaf);
+                for (int v = 0; v < PACES; v++) {
+                    takeFewer(v * PLANES);
                 }
             }
         }
 
-        /** Where the counts of both boats are below the best ones, they become the best. */
-        private void takeFewer() {
+        private void addMisses(int[] planes, int boat, int shift, int sheaf) {
+            for (int i = 0; i < chart.fresh[boat].size; i++) {
+                chart.look(boat, i, chart.fresh[boat].at(i, 1) + shift, sheaf);
+                for (int v = 0; v < PACES; v++) {
+                    int carry = ~chart.sight[v];
+                    for (int p = v * PLANES; p < (v + 1) * PLANES && carry != 0; p++) {
+                        int both = planes[p] & carry;
+                        planes[p] ^= carry;
+                        carry = both;
+                    }
+                }
+            }
+        }
+
+        /** Where the counts of both boats are below a lane's best ones, they become the best. */
+        private void takeFewer(int from) {
             int fewer = 0;
             int alike = -1;
-            for (int p = PLANES - 1; p >= 0; p--) {
+            for (int p = from + PLANES - 1; p >= from; p--) {
                 fewer |= alike & ~ofBoth[p] & best[p];
                 alike &= ~(ofBoth[p] ^ best[p]);
             }
-            for (int p = 0; p < PLANES; p++) {
-                best[p] = ofBoth[p] & fewer | best[p] & ~fewer;
+            for (int p = from; p < from + PLANES; p++) {
+                best[p] = (ofBoth[p] & fewer) | (best[p] & ~fewer);
             }
         }
 
         /** Counts the runs among these whose counts begin with such digits, digit by digit. */
-        private void spread(int among, int plane, int digits) {
+        private void spread(int among, int from, int digit, int digits) {
             if (among == 0) {
                 return;
             }
-            if (plane < 0) {
-                howMany[digits & howMany.length - 1] += Integer.bitCount(among);
+            if (digit < 0) {
+                howMany[digits & (howMany.length - 1)] += Integer.bitCount(among);
                 return;
             }
-            spread(among & ~best[plane], plane - 1, digits);
-            spread(among & best[plane], plane - 1, digits | 1 << plane);
+            spread(among & ~best[from + digit], from, digit - 1, digits);
+            spread(among & best[from + digit], from, digit - 1, digits | (1 << digit));
         }
 
-        private void noteFewest(int lane) {
+        private void noteFewest(int lane, int from) {
             int among = -1;
             int misses = 0;
             for (int p = PLANES - 1; p >= 0; p--) {
-                int lower = among & ~best[p];
+                int lower = among & ~best[from + p];
                 if (lower == 0) {
                     misses |= 1 << p;
                 } else {
@@ -1603,7 +1666,7 @@ public final class HullEars {
                 }
             }
             int code = Chart.codeOf(lane, Chart.lowestBit(among));
-            if (misses < fewest || misses == fewest && code < first) {
+            if (misses < fewest || (misses == fewest && code < first)) {
                 fewest = misses;
                 first = code;
             }
@@ -1641,7 +1704,7 @@ public final class HullEars {
             for (int k = 0; k < book.heard.size; k++) {
                 int later = book.heard.at(k, 1) - book.heard.at(i, 1);
                 if (book.heard.at(k, 0) == boat && later >= 1 && later <= book.terms[GAP]) {
-                    int turned = Rose.between(book.heard.at(i, 2), book.heard.at(k, 2));
+                    int turned = between(book.heard.at(i, 2), book.heard.at(k, 2));
                     if (turned <= book.terms[TURN] * later) {
                         found |= 1 << k;
                     }

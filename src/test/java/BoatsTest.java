@@ -137,6 +137,11 @@ public final class BoatsTest {
         DUE.same("P7 wrong", x.layer(5, -1), -1);
         DUE.same("P7 wrong", x.layer(5, 201), -1);
         DUE.same("P7 the deepest", x.layer(9, 5), 100);
+        x.day(0);
+        DUE.same("P7 wrong", x.layer(10, 5), -1);
+        DUE.same("P7 refused", x.status(), -1);
+        x.day(1);
+        DUE.same("P7 no other day's", x.layer(0, 5), 7);
     }
 
     private static void reaches() {
@@ -206,6 +211,8 @@ public final class BoatsTest {
         DUE.same("P9 edge", x.bearing(-999, 1000), 0);
         DUE.same("P9 none", x.bearing(0, 0), -1);
         DUE.same("P9 none", x.bearing(0, 1001), -1);
+        DUE.same("P9 none", x.bearing(5, -1001), -1);
+        DUE.same("P9 none", x.bearing(1001, 5), -1);
         DUE.same("P9 none", x.bearing(-1001, 5), -1);
         DUE.same("P9 none", x.bearing(Integer.MIN_VALUE, 5), -1);
     }

@@ -95,11 +95,14 @@ public final class CrossingsTest {
         DUE.same("P40 none at all", x.pairings(0), 0);
         DUE.same("P40 no bell", x.pairings(24), -1);
         DUE.same("P40 no bell", x.pairings(-1), -1);
-        x.heard(0, 0, 20);
-        DUE.same("P40 not as many", x.pairings(0), 0);
         x.heard(1, 0, 79);
+        DUE.same("P40 not as many", x.pairings(0), 0);
+        DUE.same("P41 no pair", x.ghost(0, 0, 0), -1);
+        x.heard(0, 0, 20);
+        DUE.same("P41 fresh", x.ghost(0, 0, 0), 0);
         DUE.same("P40 one", x.pairings(0), 1);
-        DUE.same("P41", x.ghost(0, 0, 0), 0);
+        DUE.same("P41 no pair", x.ghost(0, 1, 0), -1);
+        DUE.same("P41 no pair", x.ghost(0, 0, 1), -1);
         x.heard(0, 0, 16);
         DUE.same("P40 not as many", x.pairings(0), 0);
         DUE.same("P41 no pairing", x.ghost(0, 0, 0), 1);

@@ -91,6 +91,7 @@ public final class OffersTest {
         HullEars x = three();
         x.offer(0, 0);
         x.offer(-3, 2);
+        x.offer(2, -3);
         DUE.same("P33 without a law", x.heardBy(4, 1, 0), 3);
         Due.law(x, "noise 5;loss range;ear 2 if speed<3;ear 4 if bell=9");
         // At bell 5 from (15, 15) they are in ranges 1, 2, 3; at bell 6 in 2, 4, 6.
@@ -106,6 +107,7 @@ public final class OffersTest {
         Due.law(x, "noise depth*100+boat*10+speed;ear 502");
         DUE.same("P33 speed 0", x.heardBy(4, 1, 0), 0);
         DUE.same("P33 speed 3, depth 5", x.heardBy(4, 1, 1), 3);
+        DUE.same("P33 speed 3, depth 5", x.heardBy(4, 1, 2), 3);
     }
 
     private static void silent() {
@@ -127,6 +129,12 @@ public final class OffersTest {
         DUE.same("P34 all may", x.silent(4, 1, 2), 0);
         DUE.same("P34 none", x.silent(4, 1, 0), 2);
         DUE.same("P34 no turn is asked", x.turn(4, 1), 0);
+        // Heard by as many as may hear, and by one more.
+        Due.law(x, "noise 1 if boat=0;ear 1");
+        DUE.same("P34", x.silent(4, 1, 3), 0);
+        DUE.same("P34", x.silent(4, 1, 2), -1);
+        x.heard(0, 3, 60);
+        DUE.same("P34 fresh", x.silent(4, 1, 0), 0);
     }
 
     private static void wrong() {

@@ -15,6 +15,7 @@ public final class RunsTest {
         leastAndBetter();
         wrong();
         everyChangeCounts();
+        everyQuestionIsFresh();
         DUE.finish();
     }
 
@@ -62,6 +63,7 @@ public final class RunsTest {
         }
         DUE.same("P25", y.alone(23, 1), 7 - 23);
         DUE.same("P25", y.alone(23, 0), 4);
+        DUE.same("P23 one", y.span(2, 3), 5);
         // At the own place nothing is heard.
         y.terms(0, 20);
         y.heard(0, 3, 5);
@@ -232,11 +234,25 @@ public final class RunsTest {
         DUE.same("P25", x.alone(4, -1), -1000);
         x.heard(0, 0, 60);
         DUE.same("P23 none fits", x.span(0, 0), -1000);
-        // At one east, but not at one north.
+        // All at east 31, or all at north 31, but not at one place.
         HullEars y = new HullEars();
-        y.terms(0, 0);
-        y.heard(0, 0, 10);
-        DUE.same("P25 east alone", y.alone(0, 0), -1000);
+        y.terms(0, 10);
+        y.boat(0, 30, 5, 5);
+        y.heard(0, 0, 30);
+        HullEars z = new HullEars();
+        z.terms(0, 10);
+        z.boat(0, 5, 30, 5);
+        z.heard(0, 0, 10);
+        int[] eastAlone = {31, 31, 4, 6};
+        int[] northAlone = {4, 6, 31, 31};
+        for (int what = 0; what < 4; what++) {
+            DUE.same("P23", y.span(0, what), eastAlone[what]);
+            DUE.same("P23", z.span(0, what), northAlone[what]);
+        }
+        for (int what = 0; what < 2; what++) {
+            DUE.same("P25 east alone", y.alone(0, what), -1000);
+            DUE.same("P25 north alone", z.alone(0, what), -1000);
+        }
     }
 
     private static void within() {
@@ -362,5 +378,43 @@ public final class RunsTest {
         DUE.same("P17 counts", x.runs(), was[0]);
         x.shoal(0, 9, 1, 2, 2);
         DUE.same("P13 counts", x.runs(), 50176);
+    }
+
+    /** Each question must find out for itself what has changed. */
+    private static void everyQuestionIsFresh() {
+        for (int question = 0; question < 13; question++) {
+            HullEars x = new HullEars();
+            x.terms(0, 0);
+            x.terms(1, 0);
+            x.offer(0, 0);
+            x.guess(9, 9, 0, 0);
+            long[] was = answers(x, question);
+            x.heard(0, 0, 10);
+            x.echo(0, 0, 3);
+            x.heard(1, 0, 10);
+            long[] is = answers(x, question);
+            DUE.same("fresh " + question, is[0] != was[0] ? 1 : 0, 1);
+            x.boat(0, 9, 9, 5);
+            x.boat(1, 9, 9, 5);
+            DUE.same("fresh again " + question, answers(x, question)[0] != is[0] || question > 9 ? 1 : 0, 1);
+        }
+    }
+
+    private static long[] answers(HullEars x, int question) {
+        switch (question) {
+            case 0: return new long[] {x.run(0, 0) * 99 + x.run(0, 1)};
+            case 1: return new long[] {x.span(0, 1) * 99 + x.span(0, 3)};
+            case 2: return new long[] {x.alone(0, 1)};
+            case 3: return new long[] {x.within(0, 9, 9, 4)};
+            case 4: return new long[] {x.misses(9, 12, 0, 0)};
+            case 5: return new long[] {x.least(2)};
+            case 6: return new long[] {x.misses(9, 12, 0, 0) * 99999 + x.least(2)};
+            case 7: return new long[] {x.run(0, 1)};
+            case 8: return new long[] {x.cross(0, 0, 0)};
+            case 9: return new long[] {x.misses(3, 0, 0, 0)};
+            case 10: return new long[] {x.parts(0, 1, 0)};
+            case 11: return new long[] {x.heardBy(0, 1, 0)};
+            default: return new long[] {x.silent(0, 1, 100)};
+        }
     }
 }

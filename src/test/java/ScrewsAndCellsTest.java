@@ -61,6 +61,10 @@ public final class ScrewsAndCellsTest {
         // Near 44: 45 = 3 * 15 one off; 10, 12, 20 have none of 43 .. 45.
         DUE.same("P43", z.screws(), 1);
         DUE.same("P44", z.screw(0, 0), 15);
+        z.beat(14);
+        DUE.same("P43 once", z.screws(), 1);
+        z.beat(13);
+        DUE.same("P43 less than once", z.screws(), 0);
         // One turn can have several blades.
         HullEars w = new HullEars();
         w.beat(4);
@@ -148,10 +152,14 @@ public final class ScrewsAndCellsTest {
         x.cell(97, 1);
         // 1 less 0.99 to the sixth.
         chance(x, 6, 1000000000000L - 941480149401L, 1000000000000L, 6);
+        HullEars z = new HullEars();
+        z.cell(1, 1);
+        chance(z, 6, 58519850599L, 1000000000000L, 6);
         HullEars y = new HullEars();
         for (int i = 0; i < 6; i++) {
             y.cell(100 - i, 100);
         }
+        DUE.same("P49 first of all", y.looks(1, 0), 1);
         chance(y, 6, 1, 1, 1, 1, 1, 1, 1, 1);
         chance(y, 5, 98, 117, 1, 1, 1, 1, 1, 0);
     }

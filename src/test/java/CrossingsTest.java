@@ -6,6 +6,7 @@ public final class CrossingsTest {
         watches();
         crossings();
         pairings();
+        edgesOfTheSea();
         sixAtMost();
         apartIsNotAsked();
         DUE.finish();
@@ -154,6 +155,27 @@ public final class CrossingsTest {
         DUE.same("P40", x.pairings(2), straight + crossed);
         DUE.same("P41", x.ghost(2, 0, 0), 1 - straight);
         DUE.same("P41", x.ghost(2, 1, 0), 1 - crossed);
+    }
+
+    private static void edgesOfTheSea() {
+        HullEars x = corners();
+        x.heard(0, 1, 10);
+        x.heard(1, 1, 79);
+        // Straight up from (0, 0), and to (0, 28 .. 30) from (31, 0).
+        DUE.same("P39 east 0", x.cross(1, 0, 0), placesBoth(x, 10, 79));
+        int atEastNone = 0;
+        for (int n = 0; n < 32; n++) {
+            if (x.bearing(0, n) == 10 && x.bearing(-31, n) == 79) atEastNone++;
+        }
+        DUE.same("P39 east 0 has some", atEastNone > 0 ? 1 : 0, 1);
+        x.boat(0, 31, 0, 5);
+        x.boat(1, 0, 0, 5);
+        DUE.same("P40 they look apart", x.pairings(1), 0);
+        DUE.same("P41 they look apart", x.ghost(1, 0, 0), 1);
+        // Boat 1 hears something, boat 0 nothing.
+        x.heard(1, 2, 20);
+        DUE.same("P40 one alone", x.pairings(2), 0);
+        DUE.same("P41 one alone", x.ghost(2, 0, 0), -1);
     }
 
     private static void sixAtMost() {

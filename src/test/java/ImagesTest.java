@@ -29,6 +29,9 @@ public final class ImagesTest {
         HullEars x = new HullEars();
         x.boat(0, 1, 2, 3);
         x.leg(0, 4, 1, -1);
+        x.leg(0, 6, 2, -1);
+        x.boat(1, 3, 3, 4);
+        x.leg(1, 5, 1, 1);
         x.terms(0, 7);
         x.terms(5, 9);
         x.day(1);
@@ -48,7 +51,7 @@ public final class ImagesTest {
     /** All that can be asked of what an image keeps, as one number. */
     private static long look(HullEars x) {
         long sum = 17;
-        int[] all = {x.where(0, 9, 0), x.where(0, 9, 1), x.where(0, 9, 2), x.where(1, 9, 0), x.count(16),
+        int[] all = {x.where(0, 9, 0), x.where(0, 9, 1), x.where(0, 9, 2), x.where(1, 9, 0), x.where(1, 9, 1), x.where(1, 9, 2), x.count(16),
             x.reaches(2, 5, 2), x.reaches(3, 5, 9), x.known(0, 0), x.known(1, 0), x.count(0), x.count(1), x.count(2),
             x.count(3), x.count(4), x.count(5), x.count(6), x.count(7), x.count(14), x.count(15), x.runs(),
             x.run(5, 0), x.least(1), x.better(0), x.parts(0, 1, 0), x.heardBy(0, 1, 0), x.traces(0), x.watch(0, 1),
@@ -83,13 +86,15 @@ public final class ImagesTest {
         DUE.same("P51 layer", x.layer(2, 50), 50);
         x.day(0);
         DUE.same("P51 layers of other days", x.layer(2, 100), 100);
-        DUE.same("P51 depth and legs", x.boat(0, 1, 2, 3), 1);
+        DUE.same("P51 legs", x.leg(0, 6, 0, 0), -3);
+        DUE.same("P51 legs", x.boat(0, 1, 2, 3), 2);
+        DUE.same("P51 legs", x.boat(1, 1, 2, 3), 1);
     }
 
     private static void change(HullEars x, int change) {
         switch (change) {
             case 0: x.boat(0, 20, 20, 9); break;
-            case 1: x.leg(0, 9, 3, 3); break;
+            case 1: x.leg(0, 9, 3, 3); x.boat(1, 9, 9, 9); break;
             case 2: x.terms(0, 1); break;
             case 3: x.terms(5, 1); break;
             case 4: x.layer(2, 77); break;

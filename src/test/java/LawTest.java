@@ -7,6 +7,8 @@ public final class LawTest {
         faults();
         limits();
         aFaultChangesNothing();
+        cutTape();
+        manyLaws();
         words();
         reckoning();
         broken();
@@ -100,6 +102,11 @@ public final class LawTest {
         fault("noise\t1", 5);
         fault("noise 1\u00e9", 7);
         fault("noise 1001", 6);
+        fault("noise 10000", 6);
+        fault("noisez 1", 0);
+        fault("poise 1", 0);
+        fault(" ".repeat(400), 400);
+        fault("noise 1 if" + " ".repeat(390), 400);
         fault("noise 99999999999999999999", 6);
         fault("noise speedy", 6);
         fault("noise speedbell", 6);
@@ -149,6 +156,33 @@ public final class LawTest {
         DUE.same("P19", x.tells(0, 0, 0, 1), 9);
         DUE.same("P19 empty tape", x.law(), -6);
         DUE.same("P20 empty tape", x.fault(), 0);
+    }
+
+    /** What lay on the tape before is not read. */
+    private static void cutTape() {
+        HullEars x = new HullEars();
+        // "nois", "e 12", blanks.
+        x.feed(0x6e6f6973, 0x65203132, 0x20202020, 0x20202020, 0x20202020);
+        x.end(5);
+        DUE.same("P16 cut", x.law(), -6);
+        DUE.same("P20 cut", x.fault(), 5);
+        x.feed(0x6e6f6973, 0x65203132, 0x20202020, 0x20202020, 0x20202020);
+        x.end(7);
+        DUE.same("P16 cut", x.law(), 1);
+        DUE.same("P45 cut", x.tells(0, 0, 0, 0), 1);
+        x.feed(0x6e6f6973, 0x65203132, 0x20202020, 0x20202020, 0x20202020);
+        x.end(9);
+        DUE.same("P19 blanks behind", x.law(), 1);
+        DUE.same("P45", x.tells(0, 0, 0, 0), 12);
+    }
+
+    private static void manyLaws() {
+        HullEars x = new HullEars();
+        for (int i = 0; i < 50; i++) {
+            DUE.same("P19 again", Due.law(x, "noise 1" + "+1".repeat(40 + i % 9)), 1);
+            DUE.same("P45 again", x.tells(0, 0, 0, 0), 41 + i % 9);
+            Due.law(x, "noise 1" + "+1".repeat(45) + "+");
+        }
     }
 
     private static void words() {
@@ -204,6 +238,8 @@ public final class LawTest {
         test("2=2", 1);
         test("1=2", 0);
         test("not 1=2", 1);
+        test("not 1<2", 0);
+        test("not 2>1", 0);
         test("not not 1=2", 0);
         test("not not not 1=2", 1);
         // "and" binds more than "or", "not" more than both.

@@ -6,6 +6,7 @@ public final class OffersTest {
         offers();
         parts();
         ownPlace();
+        firstDirection();
         turn();
         heardBy();
         silent();
@@ -71,6 +72,18 @@ public final class OffersTest {
         DUE.same("P31 own place", x.parts(4, 1, 0), 2);
         // From (13, 13): one on each side of one that is there.
         DUE.same("P31 own place", x.parts(4, 1, 1), 1);
+    }
+
+    /** The first direction has its group, too. */
+    private static void firstDirection() {
+        HullEars x = new HullEars();
+        x.boat(0, 31, 0, 5);
+        x.terms(0, 0);
+        x.heard(0, 0, 0);
+        x.heard(0, 9, 0);
+        x.offer(0, 0);
+        // All that is at direction 0 at bells 0 and 9 is there at all bells between.
+        DUE.same("P31", x.parts(3, 2, 0), x.runs());
     }
 
     private static void turn() {

@@ -14,6 +14,8 @@ public final class RunsTest {
         within();
         leastAndBetter();
         wrong();
+        manyMisses();
+        firstOfAll();
         everyChangeCounts();
         everyQuestionIsFresh();
         DUE.finish();
@@ -334,6 +336,85 @@ public final class RunsTest {
         }
         DUE.same("P28 no room", x.guess(0, 0, 0, 0), -5);
         DUE.same("P52", x.count(15), 8);
+    }
+
+    /** All that can be heard, all of one boat, all missed by some. */
+    private static void manyMisses() {
+        for (int boat = 0; boat < 2; boat++) {
+            HullEars x = new HullEars();
+            x.boat(boat, 16, 16, 5);
+            x.terms(0, 0);
+            x.terms(1, 0);
+            for (int i = 0; i < 24; i++) {
+                x.heard(boat, 0, 30);
+            }
+            for (int i = 0; i < 12; i++) {
+                x.echo(boat, 0, i < 11 ? 4 : 15);
+            }
+            x.guess(0, 0, 1, 2);
+            x.guess(31, 16, 1, 2);
+            x.guess(20, 16, 1, 2);
+            DUE.same("P24 all", x.misses(0, 0, 0, 0), 36);
+            DUE.same("P24 all but one", x.misses(31, 16, 0, 0), 11);
+            DUE.same("P24 but one", x.misses(20, 16, 0, 0), 1);
+            DUE.same("P27", x.least(0), 1);
+            DUE.same("P27", x.least(1), 49);
+            DUE.same("P27", x.least(2), 1568 * 20 + 49 * 16);
+            DUE.same("P29", x.better(2), 0);
+            DUE.same("P29", x.better(1), 49);
+            int some = 0;
+            for (int e = -16; e <= 15; e++) {
+                for (int n = -16; n <= 15; n++) {
+                    int squares = e * e + n * n;
+                    if (x.bearing(e, n) == 30 || squares == 16 || squares == 225) some++;
+                }
+            }
+            DUE.same("P29", x.better(0), some * 49);
+            DUE.same("P21", x.runs(), 0);
+        }
+    }
+
+    /** The first run of all, and a guess whose paces matter. */
+    private static void firstOfAll() {
+        HullEars x = new HullEars();
+        x.terms(0, 0);
+        x.terms(1, 0);
+        x.echo(0, 0, 0);
+        x.boat(1, 0, 0, 5);
+        x.leg(1, 0, -3, -3);
+        x.echo(1, 9, 0);
+        DUE.same("P21", x.runs(), 1);
+        DUE.same("P22", x.run(0, 3), -3);
+        DUE.same("P23", x.span(9, 0), -27);
+        DUE.same("P23", x.span(9, 3), -27);
+        DUE.same("P25", x.alone(10, 1), -30);
+        DUE.same("P26", x.within(10, -30, -30, 0), 1);
+        DUE.same("P27", x.least(2), 0);
+        x.offer(0, 0);
+        DUE.same("P31", x.parts(2, 3, 0), 1);
+        DUE.same("P33", x.heardBy(2, 3, 0), 1);
+        DUE.same("P46", x.hears(0, 7), 1);
+        x.guess(0, 0, -3, 3);
+        x.guess(0, 0, 3, -3);
+        x.guess(0, 0, -3, -3);
+        x.guess(1, 0, 0, 0);
+        DUE.same("P29", x.better(0), 1);
+        DUE.same("P29", x.better(1), 1);
+        DUE.same("P29", x.better(2), 0);
+        DUE.same("P29", x.better(3), 49 + atBell9(-27, -27) - 1);
+    }
+
+    /** How many runs are at a place at bell 9. */
+    private static int atBell9(int east, int north) {
+        int found = 0;
+        for (int u = -3; u <= 3; u++) {
+            for (int v = -3; v <= 3; v++) {
+                int x = east - 9 * u;
+                int y = north - 9 * v;
+                if (x >= 0 && x < 32 && y >= 0 && y < 32) found++;
+            }
+        }
+        return found;
     }
 
     /** What was reckoned before must not be answered behind a change. */

@@ -168,6 +168,7 @@ public final class CrossingsTest {
             if (x.bearing(0, n) == 10 && x.bearing(-31, n) == 79) atEastNone++;
         }
         DUE.same("P39 east 0 has some", atEastNone > 0 ? 1 : 0, 1);
+        DUE.same("P40 they meet", x.pairings(1), 1);
         x.boat(0, 31, 0, 5);
         x.boat(1, 0, 0, 5);
         DUE.same("P40 they look apart", x.pairings(1), 0);

@@ -15,6 +15,7 @@ public final class RunsTest {
         leastAndBetter();
         wrong();
         manyMisses();
+        mostMissesAtLeast();
         firstOfAll();
         everyChangeCounts();
         everyQuestionIsFresh();
@@ -371,6 +372,32 @@ public final class RunsTest {
             }
             DUE.same("P29", x.better(0), some * 49);
             DUE.same("P21", x.runs(), 0);
+        }
+    }
+
+    /** Things that no run can fit together, so that all miss almost all of them. */
+    private static void mostMissesAtLeast() {
+        for (int boat = 0; boat < 2; boat++) {
+            HullEars x = new HullEars();
+            x.boat(boat, 16, 16, 5);
+            x.terms(0, 0);
+            for (int i = 0; i < 24; i++) {
+                x.heard(boat, 0, 3 * i);
+            }
+            for (int i = 0; i < 12; i++) {
+                x.echo(boat, 0, 99);
+            }
+            int places = 0;
+            for (int e = -16; e <= 15; e++) {
+                for (int n = -16; n <= 15; n++) {
+                    int direction = x.bearing(e, n);
+                    if (direction >= 0 && direction < 72 && direction % 3 == 0) places++;
+                }
+            }
+            DUE.same("P27", x.least(0), 35);
+            DUE.same("P27", x.least(1), places * 49);
+            x.guess(16, 16, 0, 0);
+            DUE.same("P29", x.better(0), places * 49);
         }
     }
 

@@ -1,6 +1,7 @@
 /** Counts the answers of one test that are not as due. */
 final class Due {
     private final String name;
+    private String sentence = "";
     private int asked = 0;
     private int wrong = 0;
 
@@ -8,14 +9,23 @@ final class Due {
         this.name = name;
     }
 
+    /** What is asked from here on is asked for some words of the document. */
+    void sentence(String words) {
+        sentence = " (" + words + ")";
+    }
+
     void same(String call, long got, long want) {
         asked++;
         if (got != want) {
             wrong++;
             if (wrong <= 40) {
-                System.out.println(name + ": " + call + " answered " + got + ", due is " + want);
+                System.out.println(name + ": " + call + " answered " + got + ", due is " + want + sentence);
             }
         }
+    }
+
+    void yes(String what, boolean is) {
+        same(what, is ? 1 : 0, 1);
     }
 
     boolean isGood() {

@@ -197,6 +197,8 @@ public final class ImagesTest {
     }
 
     private static void status() {
+        DUE.sentence("What the latest call of boat, leg, terms, day, layer, heard, echo, wreck, shoal, row, law, guess, offer,"
+            + " beat, cell, image, back was REFUSED by; 0 if it was not, or ahead of any.");
         HullEars x = new HullEars();
         DUE.same("P53 ahead of any", x.status(), 0);
         int[] why = {x.boat(0, 99, 0, 0), x.status(), x.boat(9, 9, 9, 9), x.status(), x.leg(0, 99, 0, 0), x.status(),

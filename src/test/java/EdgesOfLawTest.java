@@ -111,8 +111,25 @@ public final class EdgesOfLawTest {
         DUE.same("all six", screws(700, 100, 200, 300, 400, 500), 1);
         DUE.same("the sixth", screws(700, 100, 200, 300, 400, 550), 0);
         DUE.same("the others need no blades", screws(700, 100, 1100), 1);
+        DUE.same("1 is no times 0", screws(700, 1), 0);
+        DUE.same("one turn and one off", screws(4, 1), 3);
+        DUE.same("two turns and one off", screws(9, 1), 2);
         DUE.sentence("How many SCREWS FIT (0 without a BEAT).");
         DUE.same("without", screws(), 0);
+        for (int beat = 1; beat <= 3000; beat++) {
+            int fitting = 0;
+            for (int turns = 1; turns <= 300; turns++) {
+                for (int blades = 3; blades <= 7; blades++) {
+                    if (Math.abs(turns * blades - beat) <= 1) fitting++;
+                }
+            }
+            HullEars x = new HullEars();
+            x.beat(beat);
+            DUE.same("beat " + beat, x.screws(), fitting);
+            DUE.same("no more of " + beat, x.screw(fitting, 0), -1);
+            int last = fitting == 0 ? 0 : x.screw(fitting - 1, 0) * x.screw(fitting - 1, 1);
+            DUE.yes("the last of " + beat, fitting == 0 || Math.abs(last - beat) <= 1);
+        }
     }
 
     private static void screwsInOrder() {

@@ -151,6 +151,9 @@ public final class EdgesOfPromisesTest {
             DUE.same("what " + w, x.known(w, 0), -1);
         }
         DUE.same("known echo", x.known(1, 0), 1);
+        for (int w : wrong) {
+            DUE.same("echo " + w, x.known(1, w), -1);
+        }
     }
 
     private static void feed() {
@@ -367,6 +370,25 @@ public final class EdgesOfPromisesTest {
         DUE.same("from the other", x.within(23, 199, 199, 99), 1);
         DUE.same("from the other", x.within(23, 199, 199, 98), 0);
         DUE.same("none fits", hopeless().within(0, 0, 0, 99), 0);
+        int[] bells = {0, 1, 7, 23};
+        int[][] squares = {{0, 0, 0}, {16, 5, 3}, {-20, 40, 9}, {40, -20, 9}, {60, 60, 30}, {-50, -40, 25}, {31, 0, 99}};
+        for (int bell : bells) {
+            for (int[] q : squares) {
+                int due = oneWay(bell, q[0], q[2]) * oneWay(bell, q[1], q[2]);
+                DUE.same("all runs at " + bell, x.within(bell, q[0], q[1], q[2]), due);
+            }
+        }
+    }
+
+    /** How many starts and paces, in one of both ways, bring a run so near to a place. */
+    private static int oneWay(int bell, int place, int wide) {
+        int found = 0;
+        for (int start = 0; start < 32; start++) {
+            for (int pace = -3; pace <= 3; pace++) {
+                if (Math.abs(start + pace * bell - place) <= wide) found++;
+            }
+        }
+        return found;
     }
 
     private static void least() {
@@ -473,6 +495,15 @@ public final class EdgesOfPromisesTest {
         for (int w : noneHeard) {
             DUE.same("heard " + w, x.next(w), -1);
         }
+        HullEars full = new HullEars();
+        for (int k = 0; k < 24; k++) {
+            full.heard(0, 23 - k, 0);
+        }
+        DUE.same("the last told", full.next(23), 22);
+        DUE.same("no more", full.next(24), -1);
+        DUE.same("no more", full.next(25), -1);
+        DUE.same("no more", full.sure(24, 23), -1);
+        DUE.same("no more", full.sure(23, 24), -1);
     }
 
     private static void sure() {

@@ -9,6 +9,7 @@ public final class EdgesOfRunsTest {
         reachedInThatRange();
         squares();
         belowNothing();
+        allDistances();
         theFarthest();
         echoesMustReach();
         boatZeroHasNoShift();
@@ -18,6 +19,7 @@ public final class EdgesOfRunsTest {
         whereTheBoatIsThen();
         inOrder();
         fewestMisses();
+        fewestOfMany();
         guessesAtMost();
         fewerMisses();
         offersAtMost();
@@ -34,6 +36,7 @@ public final class EdgesOfRunsTest {
         firstOfThem();
         crossInOrder();
         crossInTheSea();
+        crossAtTheEdges();
         crossInOnePlace();
         noPairing();
         moreThanSix();
@@ -61,6 +64,13 @@ public final class EdgesOfRunsTest {
             DUE.same("the first", x.run(0, what), first[what]);
             DUE.same("the last", x.run(50175, what), last[what]);
         }
+        for (int i = 0; i < 50176; i += 523) {
+            int[] due = {i / 1568, i / 49 % 32, i / 7 % 7 - 3, i % 7 - 3};
+            for (int what = 0; what < 4; what++) {
+                DUE.same("run " + i, x.run(i, what), due[what]);
+            }
+        }
+        x = new HullEars();
         for (int bell = 0; bell <= 23; bell++) {
             for (int what = 0; what < 4; what++) {
                 DUE.same("span", x.span(bell, what), what % 2 == 0 ? -3 * bell : 31 + 3 * bell);
@@ -176,6 +186,38 @@ public final class EdgesOfRunsTest {
         x.echo(0, 0, 10);
         DUE.same("10 less 9", x.misses(0, 0, 0, 0), 1);
         DUE.same("10 less 9", x.misses(1, 0, 0, 0), 0);
+    }
+
+    private static void allDistances() {
+        DUE.sentence("are not below the square of DISTANCE less OFF");
+        for (int distance = 0; distance <= 99; distance++) {
+            int bell = Math.min(23, distance / 3);
+            int rest = distance - 3 * bell;
+            HullEars x = new HullEars();
+            x.terms(1, 0);
+            x.boat(0, 0, 16, 5);
+            x.leg(0, 0, -3, 0);
+            x.echo(0, bell, distance);
+            HullEars y = new HullEars();
+            y.terms(1, 0);
+            y.boat(0, 16, 0, 5);
+            y.leg(0, 0, 0, -3);
+            y.echo(0, bell, distance);
+            for (int off = 0; off <= 9; off += 3) {
+                x.terms(1, off);
+                y.terms(1, off);
+                for (int step = Math.max(-off - 1, -rest); step <= off + 1 && rest + step <= 31; step++) {
+                    for (int aside = 0; aside <= 1; aside++) {
+                        int squares = (distance + step) * (distance + step) + aside;
+                        int low = Math.max(0, distance - off);
+                        int high = distance + off;
+                        int due = squares >= low * low && squares <= high * high ? 0 : 1;
+                        DUE.same("east " + distance, x.misses(rest + step, 16 + aside, 0, 0), due);
+                        DUE.same("north " + distance, y.misses(16 + aside, rest + step, 0, 0), due);
+                    }
+                }
+            }
+        }
     }
 
     private static void theFarthest() {
@@ -359,6 +401,25 @@ public final class EdgesOfRunsTest {
         x.boat(0, 5, 31, 5);
         DUE.same("and what boat 0 has", x.misses(5, 10, 0, 0), 5 + 1);
         DUE.same("no run", x.misses(5, 32, 0, 0), -1);
+    }
+
+    /** Of 36 that are new 31, 32 or 33 are missed, as the shift is; 12 of them are echoes of nothing. */
+    private static void fewestOfMany() {
+        DUE.sentence("with the SHIFT that has the fewest");
+        int[][] bells = {{9, 10, 11}, {9, 11, 10}, {10, 9, 11}, {10, 11, 9}, {11, 9, 10}, {11, 10, 9}};
+        for (int[] b : bells) {
+            HullEars x = northwards(1);
+            for (int k = 0; k < 24; k++) {
+                x.heard(1, k < 3 ? b[0] : k < 7 ? b[1] : k < 12 ? b[2] : 22, 30);
+                if (k < 12) x.echo(1, 0, 99);
+            }
+            x.guess(5, 10, 0, 0);
+            x.guess(5, 1, 0, 0);
+            DUE.same("all are new", x.count(7), 36);
+            DUE.same("the best shift", x.misses(5, 10, 0, 0), 31);
+            DUE.same("no shift helps", x.misses(5, 1, 0, 0), 36);
+            DUE.yes("all but those with all misses", x.better(1) > x.better(0));
+        }
     }
 
     private static void guessesAtMost() {
@@ -728,6 +789,22 @@ public final class EdgesOfRunsTest {
             }
         }
         return places;
+    }
+
+    private static void crossAtTheEdges() {
+        DUE.sentence("PLACES of the SEA that fit both");
+        int[][] edges = {{0, 0, 30, 31, 0, 70}, {0, 31, 30, 31, 31, 70}, {0, 0, 10, 0, 31, 50}, {31, 0, 10, 31, 31, 50}};
+        for (int[] e : edges) {
+            HullEars x = new HullEars();
+            x.terms(0, 0);
+            x.boat(0, e[0], e[1], 5);
+            x.boat(1, e[3], e[4], 5);
+            x.heard(0, 0, e[2]);
+            x.heard(1, 0, e[5]);
+            DUE.same("along an edge", x.cross(0, 0, 0), inSea(x, e[0], e[1], e[2], e[3], e[4], e[5]));
+            DUE.yes("all between both", x.cross(0, 0, 0) >= 30);
+            DUE.same("they cross", x.pairings(0), 1);
+        }
     }
 
     private static void crossInOnePlace() {

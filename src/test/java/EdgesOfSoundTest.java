@@ -171,9 +171,14 @@ public final class EdgesOfSoundTest {
         reached(x, "six steps", 1, 6, "1110111110");
         // From 8: the same upside down.
         reached(x, "six steps", 8, 6, "0111110111");
-        // At 0 and 9 itself nothing is beyond: from 2 to 0, from 7 to 9.
         reached(x, "to the top", 2, 1, "1111110000");
         reached(x, "to the bottom", 7, 1, "0000111111");
+        // 0 and 9 themselves are not beyond: who comes to 0 by slope -1 and is bent there stays, 0 its slope.
+        x.layer(0, 0);
+        reached(x, "at the top", 1, 2, "1111111000");
+        x.layer(0, 100);
+        x.layer(9, 0);
+        reached(x, "at the bottom", 8, 2, "0001111111");
     }
 
     private static void oneOff() {

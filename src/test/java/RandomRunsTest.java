@@ -18,6 +18,8 @@ public final class RandomRunsTest {
     /** A run that really goes through this sea, so that some runs fit what is heard. */
     private final int[] truth = new int[4];
     private final int chatter;
+    /** In some runs much is heard, most of it at the first and the last bells. */
+    private final boolean crowded;
 
     private RandomRunsTest(long seed) {
         random = new Random(seed);
@@ -25,6 +27,7 @@ public final class RandomRunsTest {
             truth[i] = i < 2 ? random.nextInt(32) : random.nextInt(7) - 3;
         }
         chatter = 1 + random.nextInt(20);
+        crowded = random.nextInt(5) == 0;
     }
 
     private int any(int low, int high) {
@@ -95,6 +98,7 @@ public final class RandomRunsTest {
     private void hear() throws IllegalAccessException, InvocationTargetException {
         int boat = random.nextInt(2);
         int bell = random.nextInt(3) == 0 ? random.nextInt(3) : random.nextInt(24);
+        if (crowded) bell = Math.floorMod(random.nextInt(5) - 2, 24);
         int x = truth[0] + truth[2] * bell - slow.where(boat, bell, 0);
         int y = truth[1] + truth[3] * bell - slow.where(boat, bell, 1);
         int direction = slow.bearing(x, y);
@@ -197,17 +201,19 @@ public final class RandomRunsTest {
     }
 
     private void crossings() throws IllegalAccessException, InvocationTargetException {
-        int bell = any(0, 3);
+        int bell = crowded ? Math.floorMod(random.nextInt(5) - 2, 24) : any(0, 3);
+        int most = crowded ? 6 : 2;
         call("pairings", bell);
-        call("cross", bell, any(0, 2), any(0, 2));
-        call("ghost", bell, any(0, 2), any(0, 2));
+        call("cross", bell, any(0, most), any(0, most));
+        call("ghost", bell, any(0, most), any(0, most));
     }
 
     private void play(int steps) throws IllegalAccessException, InvocationTargetException {
         setUp();
-        int first = random.nextInt(8);
+        int first = crowded ? 10 + random.nextInt(20) : random.nextInt(8);
         for (int i = 0; i < first; i++) {
             hear();
+            if (crowded && i % 3 == 0) change();
         }
         for (int i = 0; i < steps && DUE.isGood(); i++) {
             if (random.nextInt(3) == 0) {

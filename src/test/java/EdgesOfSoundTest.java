@@ -91,6 +91,37 @@ public final class EdgesOfSoundTest {
         DUE.same("another day", x.reaches(4, 1, 1), 1);
         x.day(0);
         DUE.same("the first day", x.reaches(4, 1, 1), 0);
+        // For all that is asked, at once when another day is in use.
+        HullEars y = new HullEars();
+        y.terms(0, 9);
+        y.terms(3, 8);
+        y.boat(0, 0, 0, 1);
+        y.boat(1, 31, 0, 1);
+        y.heard(0, 0, 20);
+        y.heard(1, 0, 0);
+        y.guess(31, 31, 0, 0);
+        y.offer(1, 1);
+        y.day(2);
+        for (int depth = 0; depth <= 9; depth++) {
+            y.layer(depth, 10 * depth);
+        }
+        int[] bent = answers(y);
+        y.day(0);
+        int[] straight = answers(y);
+        y.day(2);
+        int[] again = answers(y);
+        y.day(1);
+        int[] other = answers(y);
+        for (int i = 0; i < bent.length; i++) {
+            DUE.yes("bent otherwise " + i, bent[i] != straight[i]);
+            DUE.same("bent again " + i, again[i], bent[i]);
+            DUE.same("straight again " + i, other[i], straight[i]);
+        }
+    }
+
+    private static int[] answers(HullEars x) {
+        return new int[] {x.runs(), x.misses(16, 15, 0, 0), x.least(1), x.better(0), x.cross(0, 0, 0), x.hears(0, 0),
+            x.heardBy(0, 1, 0), x.parts(0, 1, 0), x.span(3, 1)};
     }
 
     private static void reached(HullEars x, String what, int from, int range, String due) {

@@ -2158,7 +2158,7 @@ public final class HullEars {
             if (kind != END) {
                 place++;
             }
-            while (kind < OTHER && kindAt(place) == kind) {
+            while (kind < OTHER && place < length && kindAt(place) == kind) {
                 place++;
             }
             tokenTo = place;

@@ -16,14 +16,16 @@ import java.util.spi.ToolProvider;
 import java.util.stream.Stream;
 
 /**
- * Calls that are no recursion go at most eight deep, the library's counted too. Which method calls
- * which is read from the compiled class, so all of them are seen.
+ * Calls that are no recursion go at most eight deep, the library's counted too; and nothing is made
+ * outside constructors, so that a run of calls stays in its room. Both are read from the compiled
+ * class, so all methods are seen.
  */
 public final class DepthTest {
     private static final Due DUE = new Due("DepthTest");
     private static final int DEEPEST = 8;
     private static final Pattern METHOD = Pattern.compile("  (?:\\S.*[ ])?([\\w$.]+)\\(.*\\);");
     private static final Pattern CALL = Pattern.compile(".*invoke.*Method ([^:]+):.*");
+    private static final Pattern MAKES = Pattern.compile(" +\\d+: (new|newarray|anewarray|multianewarray|invokedynamic)\\b.*");
 
     private static final Map<String, Set<String>> CALLS = new TreeMap<>();
 
@@ -67,16 +69,21 @@ public final class DepthTest {
         PrintWriter out = new PrintWriter(told);
         ToolProvider.findFirst("javap").orElseThrow().run(out, out, "-c", "-p", file);
         Set<String> now = new HashSet<>();
+        String name = "";
         for (String line : told.toString().split("\\R")) {
             Matcher method = METHOD.matcher(line);
             Matcher call = CALL.matcher(line);
             if (method.matches()) {
-                String name = method.group(1).equals(owner) ? "<init>" : method.group(1);
+                name = method.group(1).equals(owner) ? "<init>" : method.group(1);
                 now = CALLS.computeIfAbsent(owner + "." + name, k -> new TreeSet<>());
             } else if (call.matches()) {
                 String called = call.group(1).replace("\"", "");
                 now.add(called.contains(".") ? called : owner + "." + called);
+            } else if (line.contains("static {}")) {
+                name = "<clinit>";
             }
+            boolean mayMake = name.equals("<init>") || name.equals("<clinit>");
+            DUE.yes("made outside constructors: " + owner + "." + name + line, mayMake || !MAKES.matcher(line).matches());
         }
     }
 
